@@ -77,6 +77,9 @@ public final class PromiseTest {
         due("2 k", x.group(-1, 0), BAD);
         due("2 what", x.group(0, 3), BAD);
         due("2 what", x.group(0, -1), BAD);
+        MeetingGroups first = of(3, 1, 6, 7);
+        due("2 first and last", first.group(2, 2), 1);
+        due("2 first and last", first.group(1, 2), 0);
         MeetingGroups one = of(7, 127);
         due("2 alone", one.group(0, 2), NONE);
         due("2 alone", one.group(0, 1), 0);
@@ -138,6 +141,13 @@ public final class PromiseTest {
         due("4 faults", four.count(4), 1);
         due("4 mask", four.count(5), 0);
         due("4 borne", four.count(6), 1);
+        MeetingGroups most = new MeetingGroups();
+        told(most, "majority 5");
+        due("4 common", most.count(2), 1);
+        due("4 meet by one", most.count(3), 1);
+        due("4 faults", most.count(4), 2);
+        due("4 mask", most.count(5), 0);
+        due("4 borne", most.count(6), 0);
         MeetingGroups none = of(4);
         for (int what : new int[] {2, 4, 5, 6}) {
             due("4 none", none.count(what), NONE);
