@@ -461,6 +461,26 @@ public final class BoundaryGroupsTest {
         load(of(3, 3, 5, 6, 7), 2, 3);
     }
 
+    private static void loadOf(String text, int above, int below) {
+        MeetingGroups x = new MeetingGroups();
+        Bench.told(x, text);
+        load(x, above, below);
+    }
+
+    static void p05_leastAndGreatestTexts() {
+        loadOf("majority 1", 1, 1);
+        loadOf("majority 4", 3, 4);
+        loadOf("majority 5", 3, 5);
+        loadOf("grid 2*2", 3, 4);
+        loadOf("grid 3*2", 2, 3);
+        loadOf("wall 1,2,3", 1, 2);
+        loadOf("wall 4,2,1", 1, 1);
+        loadOf("plane", 3, 7);
+        // a ring of five; then one apart, which takes 2 of 7, the ring 1 of 7 each
+        loadOf("set 6: 01,12,23,34,04", 2, 5);
+        loadOf("set 6: 01,12,23,34,04,5", 2, 7);
+    }
+
     static void p05_theGroupGoneCountsNoMore() {
         MeetingGroups x = of(3, 1, 2, 4);
         load(x, 1, 3);
@@ -629,6 +649,74 @@ public final class BoundaryGroupsTest {
         }
         due(x.plan(1, 3), 0);
         due(x.count(7), 1);
+    }
+
+    /** Four plans, each kept for another group; the weights are their names. */
+    private static void ofOthers(MeetingGroups x) {
+        x.size(4);
+        Bench.sheet(x, 0, 0, 1, 2, 3, 4);
+        for (int name = 1; name <= 4; name++) {
+            x.add(1 << name - 1);
+            x.keep(name, 0, 0, name - 1);
+            x.out(1 << name - 1);
+        }
+    }
+
+    /** Names of the plans that bear something, if a set is the only group. */
+    private static int bearers(MeetingGroups x, int set) {
+        x.add(set);
+        int names = 0;
+        for (int name = 1; name <= 5; name++) {
+            names += x.plan(name, 0) == 1 ? 1 << name : 0;
+        }
+        x.out(set);
+        return names;
+    }
+
+    static void p06_eachPlanHasItsOwnGroups() {
+        MeetingGroups x = Bench.after(BoundaryGroupsTest::ofOthers);
+        for (int name = 1; name <= 4; name++) {
+            due(bearers(x, 1 << name - 1), 1 << name);
+        }
+        due(bearers(x, 3), 0);
+    }
+
+    static void p06_eachHasItsOwnGroupsAsOneIsLostOrKeptAgain() {
+        MeetingGroups x = Bench.after(BoundaryGroupsTest::ofOthers);
+        x.add(8);
+        x.keep(2, 0, 0, 0);
+        x.out(8);
+        due(bearers(x, 1), 1 << 1);
+        due(bearers(x, 2), 0);
+        due(bearers(x, 4), 1 << 3);
+        due(bearers(x, 8), 1 << 2 | 1 << 4);
+        x.add(2);
+        x.keep(5, 0, 0, 0);
+        x.out(2);
+        due(bearers(x, 1), 0);
+        due(bearers(x, 2), 1 << 5);
+        due(bearers(x, 4), 1 << 3);
+        due(bearers(x, 8), 1 << 2 | 1 << 4);
+    }
+
+    static void p06_eachHasItsOwnGroupsAfterAnImageAndUndone() {
+        MeetingGroups x = Bench.after(BoundaryGroupsTest::ofOthers);
+        x.image();
+        x.add(15);
+        x.keep(1, 0, 0, 0);
+        x.out(15);
+        due(bearers(x, 1), 0);
+        due(bearers(x, 15), 1 << 1);
+        x.restore();
+        x.add(15);
+        x.keep(1, 0, 0, 0);
+        due(x.undo(), 5);
+        due(x.undo(), 4);
+        due(bearers(x, 1), 1 << 1);
+        due(bearers(x, 15), 0);
+        x.restore();
+        due(bearers(x, 2), 1 << 2);
+        due(bearers(x, 8), 1 << 4);
     }
 
     static void p06_howManyAheadIsNoughtToThree() {

@@ -112,6 +112,24 @@ public final class BoundaryTextTest {
         fault("setwall 3", 0);
     }
 
+    static void p15_aNameOfWhichOneLetterIsAnother() {
+        fault("najority 3", 0);
+        fault("majoritx 3", 0);
+        fault("brid 1*1", 0);
+        fault("tall 1", 0);
+        fault("blane", 0);
+        fault("plans", 0);
+        fault("get 3", 0);
+        fault("sex 3", 0);
+    }
+
+    static void p15_theLastLetterOfTheAlphabetIsOneOfAName() {
+        fault("z", 0);
+        fault("planez", 0);
+        fault(" zplane", 1);
+        fault("setz 3", 0);
+    }
+
     static void p15_aFirstLetterThatIsNoneOfAName() {
         fault("3", 0);
         fault("  Plane", 2);
@@ -300,6 +318,21 @@ public final class BoundaryTextTest {
         fault("wall 1,3,3,", 10);
         fault("wall 1,2,4 x", 11);
         fault("wall 1,3,4", 9);
+    }
+
+    static void p15_eachTextIsReadAnew() {
+        MeetingGroups x = new MeetingGroups();
+        due(Bench.told(x, "wall 4,3"), 4);
+        due(Bench.told(x, "wall 4,3"), 4);
+        due(Bench.told(x, "wall 4,3,1"), -29);
+        due(Bench.told(x, "wall 1"), 1);
+        due(x.count(0), 1);
+        Bench.groups(x, 1);
+        due(Bench.told(x, TWELVE + ",06"), -55);
+        due(Bench.told(x, "set 7:06"), 1);
+        Bench.groups(x, 65);
+        due(Bench.told(x, "set 7:06,0"), 2);
+        Bench.groups(x, 65, 1);
     }
 
     // ---- plane
