@@ -365,6 +365,19 @@ public final class BoundarySheetsTest {
         due(among(new int[] {}, 3), 0);
     }
 
+    static void p22_oneGroupTwiceInTheSteadOfAnyOther() {
+        int[] groups = {3, 5, 6};
+        for (int missing = 0; missing < 3; missing++) {
+            for (int twice = 0; twice < 3; twice++) {
+                long[] row = {3, 5, 6};
+                row[missing] = groups[twice];
+                due(among(groups, row), missing == twice ? 16 : 0);
+            }
+        }
+        due(among(new int[] {3, 5}, 5, 5), 0);
+        due(among(new int[] {3, 5}, 3, 3), 0);
+    }
+
     // ---- 23 film
 
     static void p23_leastAndGreatestSheet() {
