@@ -32,8 +32,28 @@ final class Bench {
     static void due(String call, int got, int want) {
         asked++;
         if (got != want) {
-            wrong++;
-            System.out.println(name + " " + call + " answered " + got + ", due is " + want);
+            fails(name + " " + call + " answered " + got + ", due is " + want);
+        }
+    }
+
+    /** What is asked from here on belongs to this name. */
+    static void named(String what) {
+        name = what;
+    }
+
+    static int asked() {
+        return asked;
+    }
+
+    static void fails(String why) {
+        wrong++;
+        System.out.println(why);
+    }
+
+    static void end(String ran) {
+        System.out.println(ran + ", " + asked + " answers, " + wrong + " not as due");
+        if (wrong != 0) {
+            System.exit(1);
         }
     }
 
@@ -52,32 +72,25 @@ final class Bench {
         }
         for (int promise : promises) {
             if (!seen[promise]) {
-                wrong++;
-                System.out.println("no test of promise " + promise);
+                fails("no test of promise " + promise);
             }
         }
-        System.out.println(ran + " tests, " + asked + " answers, " + wrong + " not as due");
-        if (wrong != 0) {
-            System.exit(1);
-        }
+        end(ran + " tests");
     }
 
     private static void run(Method m) {
-        name = m.getName();
+        named(m.getName());
         int before = asked;
         try {
             m.setAccessible(true);
             m.invoke(null);
         } catch (InvocationTargetException e) {
-            wrong++;
-            System.out.println(name + " threw " + e.getCause());
+            fails(name + " threw " + e.getCause());
         } catch (IllegalAccessException e) {
-            wrong++;
-            System.out.println(name + " can't be run");
+            fails(name + " can't be run");
         }
         if (asked == before) {
-            wrong++;
-            System.out.println(name + " asks nothing");
+            fails(name + " asks nothing");
         }
     }
 
@@ -180,8 +193,7 @@ final class Bench {
     private static void compare(String what, List<Integer> one, List<Integer> other) {
         asked++;
         if (!one.equals(other)) {
-            wrong++;
-            System.out.println(name + " " + what + ": " + one + " and " + other);
+            fails(name + " " + what + ": " + one + " and " + other);
         }
     }
 
